@@ -48,12 +48,11 @@ public final class LuckShoes {
         if (!shelves.isRowOf(shelf, Shelves.BYTES)) {
             return OTHER_KIND;
         }
-        // places far off must not wrap when those of the next ones are reckoned
-        int from = i < 0 || i > Shelves.LONGEST ? Shelves.LONGEST : i;
         int came = 0;
-        while (came < n && shelves.hasPart(shelf, from + 3 * came, 3)
-                && world.admits(shelves.rows[shelf], from + 3 * came)) {
+        int place = i;
+        while (came < n && shelves.hasPart(shelf, place, 3) && world.admits(shelves.rows[shelf], place)) {
             came++;
+            place += 3;
         }
         return came;
     }

@@ -385,6 +385,8 @@ public final class LuckShoesPromises {
         x.mend(1, 4, 0);
         due("no thirst", x.later(9, 1, 1), 9998);
         due("one -1", x.later(0, -1, 1), BAD);
+        due("what 2 of one", x.later(0, 0, 2), BAD);
+        due("what -1 of one", x.later(0, 0, -1), BAD);
         LuckShoes y = laneWith(4, 9999);
         y.mend(5, 1, 9000);
         y.mend(3, 1, 9999);
@@ -477,6 +479,7 @@ public final class LuckShoesPromises {
         due("cell 36", x.sink(36, 0), BAD);
         due("what 2", x.sink(0, 2), BAD);
         due("what -1", x.sink(0, -1), BAD);
+        everyHoleAndHill();
         promise = 14;
         due("the last", x.basin(5), 4095);
         due("on the way", x.basin(2), 455);
@@ -485,6 +488,23 @@ public final class LuckShoesPromises {
         due("sinks", x.basin(-1), 68719472672L);
         due("-2", x.basin(-2), NO_LONG);
         due("36", x.basin(36), NO_LONG);
+    }
+
+    /** Luck runs into a hole from all cells beside it, and no more when it is filled. */
+    private static void everyHoleAndHill() {
+        LuckShoes x = new LuckShoes();
+        for (int cell = 0; cell < 36; cell++) {
+            x.mend(cell, 0, 1);
+        }
+        for (int hole = 0; hole < 36; hole++) {
+            x.mend(hole, 0, 0);
+            for (int cell = 0; cell < 36; cell++) {
+                int far = Math.abs(hole / 6 - cell / 6) + Math.abs(hole % 6 - cell % 6);
+                due("cell " + cell + " with a hole at " + hole, x.sink(cell, 0), far < 2 ? hole : cell);
+            }
+            x.mend(hole, 0, 1);
+            due("filled", x.basin(-1), (1L << 36) - 1);
+        }
     }
 
     private static void fall() {
@@ -547,6 +567,15 @@ public final class LuckShoesPromises {
         due("not three", y.shoes(0, 50014, 0), NOT);
         y.mend(4, 2, 2);
         due("points down may be turned up", y.shoes(0, 50013, 1), 112);
+        LuckShoes z = laneWith(0, 10);
+        z.mend(7, 1, 10);
+        z.person(1);
+        lawOf(z, "s=1?l/2;l");
+        due("the first cell", z.shoes(0, 40008, 1), 0);
+        due("one is told by how many", z.shoes(0, 40012, 0), 1);
+        due("one", z.shoes(0, 40012, 1), 1);
+        due("two are told by how many", z.shoes(0, 50013, 0), 2);
+        due("0 and 1", z.shoes(0, 50013, 1), 1);
     }
 
     private static void seat() {
@@ -732,6 +761,14 @@ public final class LuckShoesPromises {
         due("2 behind 1", x.byTurns(10, 12, 0), 30);
         x.mend(3, 2, 2);
         due("0 behind 2", x.byTurns(1, 12, 0), -15);
+        LuckShoes y = laneWith(0, 30);
+        y.person(1);
+        y.person(20);
+        due("the first X", y.byTurns(10, 12, 0), -5);
+        due("like ones: none", y.byTurns(10, 12, 1), 6);
+        y.mend(0, 4, 99);
+        due("the first X", y.byTurns(10, 12, 0), -10);
+        due("the first X", y.byTurns(10, 12, 1), 0);
         int[][] bad = {{0, 12, 0}, {11, 12, 0}, {2, 12, 0}, {20, 12, 0}, {-1, 12, 0}, {1, 612, 0}, {1, 2, 0},
             {1, 42, 0}, {1, 17, 0}, {1, -12, 0}, {1, 12, 2}, {1, 12, -1}, {MIN, 12, 0}, {1, MIN, 0}, {MAX, MAX, 0}};
         for (int[] of : bad) {
@@ -953,12 +990,14 @@ public final class LuckShoesPromises {
         due("40 at most", y.count(3), 40);
         for (int n = 39; n >= 0; n--) {
             due("undo", y.undo(), n);
+            due("undone", y.of(0, 1), n + 5);
         }
         due("no more", y.undo(), STATE);
         due("the oldest are kept no more", y.of(0, 1), 5);
         promise = 32;
         for (int n = 39; n >= 0; n--) {
             due("redo", y.redo(), n);
+            due("done again", y.of(0, 1), 45 - n);
         }
         due("no more", y.redo(), STATE);
         due("all again", y.of(0, 1), 45);
@@ -1086,7 +1125,7 @@ public final class LuckShoesPromises {
         x.body(0);
         x.keep(0, 0);
         due("a shoe", x.put(0, 99, 0), -12);
-        long[] given = {0x123456789ABCDEF0L, -1, 1L << 40, Long.MIN_VALUE, 128, 32768, 1L << 31};
+        long[] given = {0x123456789ABCDEF0L, -1, 1L << 40, Long.MIN_VALUE, 128, 32768, 1L << 31, 0, 1, 2, 0};
         for (int sort = 0; sort < 5; sort++) {
             x.row(1, sort, 3);
             due("-1", x.put(1, -1, 0), -13);
@@ -1180,7 +1219,8 @@ public final class LuckShoesPromises {
         x.person(0);
         x.person(0);
         x.mend(3, 1, 5);
-        x.pour(4, 1);
+        x.pour(0, 1);
+        x.pour(35, 1);
         x.mend(5, 1, 5);
         x.undo();
         x.feed(1);
@@ -1188,7 +1228,7 @@ public final class LuckShoesPromises {
         x.feed(3);
         x.body(1);
         x.act(0, 1, 0);
-        int[] due = {2, 2, 3, 1, 1, 3};
+        int[] due = {2, 3, 3, 1, 1, 3};
         for (int what = 0; what < 6; what++) {
             due("count(" + what + ")", x.count(what), due[what]);
         }
