@@ -208,11 +208,11 @@ public final class LuckShoes {
     }
 
     public int byTurns(int ab, int ynt, int what) {
-        if (ab < 0 || !world.isPerson(ab / 10) || !world.isPerson(ab % 10) || ab / 10 == ab % 10 || what < 0 || what > 1) {
+        if (ab < 0 || !world.isPerson(ab / 10) || !world.isPerson(ab % 10) || ab / 10 == ab % 10) {
             return VOID;
         }
         int n = ynt / 10 % 10;
-        if (ynt < 0 || ynt / 100 >= SIDE || n < 1 || n > Turns.MOST_TURNS || ynt % 10 > 6) {
+        if (ynt < 0 || ynt / 100 >= SIDE || n < 1 || n > Turns.MOST_TURNS || ynt % 10 > 6 || what < 0 || what > 1) {
             return VOID;
         }
         int difference = turns.play(world, ab / 10, ab % 10, ynt / 100, n, ynt % 10);
@@ -784,7 +784,7 @@ public final class LuckShoes {
     private static final class Law {
         private static final int TAPE = 120, LONGEST_NUMBER = 4, MOST_OPEN = 6;
         private static final int COMPARING = 2, OPERANDS = 5;
-        /** Steps that have no sign of their own; all others are their sign, below 0. */
+        /** Steps that have no sign of their own; others are their sign, below 0. Behind SKIP_IF_0 stands where to. */
         private static final int NEGATE = -1, SKIP_IF_0 = -2, GIVE = -3;
         private static final int NEGATION = -'!';
 
@@ -971,14 +971,18 @@ public final class LuckShoes {
             hour = o;
             cell = c;
             int top = 0;
+            int next = 0;
             for (int i = 0; i < length; i++) {
+                if (i < next) {
+                    continue;
+                }
                 int step = steps[i];
                 if (step == GIVE) {
                     return top > 0 ? stack[top - 1] : 0;
                 }
                 if (step == SKIP_IF_0) {
-                    boolean skips = top > 0 && stack[top - 1] == 0;
-                    i = skips ? nextLine(i) : i + 1;
+                    boolean skips = top > 0 && stack[top - 1] == 0 && i + 1 < length;
+                    next = skips ? steps[i + 1] : i + 2;
                     top = 0;
                 } else if (levelOf(-step) != NONE) {
                     if (top > 1) {
@@ -995,11 +999,6 @@ public final class LuckShoes {
                 }
             }
             return 0;
-        }
-
-        /** The step ahead of the line that a skip leads to: the loop's own step goes there. */
-        private int nextLine(int skip) {
-            return skip + 1 < length ? Math.max(skip, steps[skip + 1] - 1) : length;
         }
 
         private static int turned(int step, int a) {
