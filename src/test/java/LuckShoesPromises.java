@@ -493,10 +493,10 @@ public final class LuckShoesPromises {
     /** Luck runs into a hole from all cells beside it, and no more when it is filled. */
     private static void everyHoleAndHill() {
         LuckShoes x = new LuckShoes();
-        for (int cell = 0; cell < 36; cell++) {
-            x.mend(cell, 0, 1);
-        }
         for (int hole = 0; hole < 36; hole++) {
+            if (hole % 6 == 0) {
+                x = plain(1);
+            }
             x.mend(hole, 0, 0);
             for (int cell = 0; cell < 36; cell++) {
                 int far = Math.abs(hole / 6 - cell / 6) + Math.abs(hole % 6 - cell % 6);
@@ -505,6 +505,14 @@ public final class LuckShoesPromises {
             x.mend(hole, 0, 1);
             due("filled", x.basin(-1), (1L << 36) - 1);
         }
+    }
+
+    private static LuckShoes plain(int height) {
+        LuckShoes x = new LuckShoes();
+        for (int cell = 0; cell < 36; cell++) {
+            x.mend(cell, 0, height);
+        }
+        return x;
     }
 
     private static void fall() {
