@@ -80,10 +80,26 @@ public final class LuckShoesRules {
         methods(text);
         fields(text);
         loops(text);
+        order(source);
         System.out.println("the rules: " + wrong + " wrong");
         if (wrong != 0) {
             System.exit(1);
         }
+    }
+
+    /** The calls stand as the document names them, with what its interface says ahead of some. */
+    private static void order(String source) {
+        StringBuilder found = new StringBuilder();
+        Matcher matcher = Pattern.compile("\\n    (?:(// ---- [a-z, ]+)|public (?!static)(?:\\w+ )?(\\w+)\\()").matcher(source);
+        while (matcher.find()) {
+            found.append(matcher.group(1) != null ? matcher.group(1) : matcher.group(2)).append('\n');
+        }
+        String due = "LuckShoes\n// ---- people, cells\nperson\npeople\nmend\nof\nfeed\nlaw\nruns\n"
+            + "// ---- hours in thought\nlater\nall\nstill\nrich\nsink\nbasin\nfall\nshoes\nseat\n"
+            + "// ---- what was seen, bets\njudge\nseen\nbets\nmargin\nbyTurns\ndrawn\n"
+            + "// ---- in deed\nhour\npour\nhang\nmoves\nled\nimage\nback\nundo\nredo\n"
+            + "// ---- acts, shelves\nbody\nact\ntrace\nkeep\nrow\nput\nelement\nshift\ntaken\ncount\n";
+        look(found.toString().startsWith(due), 1, "the calls and what stands ahead of them: " + found);
     }
 
     private static void methods(String text) {
